@@ -582,7 +582,6 @@ public final class TowerTell {
         void clear() {
             deeds = 0;
             people = 0;
-            catches = 0;
         }
 
         void addDeed(int weight) {

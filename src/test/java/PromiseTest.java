@@ -10,6 +10,7 @@ public final class PromiseTest {
         newObject();
         towerTaken();
         towerFirstFault();
+        towerOfPart();
         towerRefused();
         ofPerson();
         weightAndWeigh();
@@ -113,6 +114,11 @@ public final class PromiseTest {
         firstFault("u-1-1-1-1-1-1p", 13);
         firstFault("u,p000", 1);
         firstFault("u-0,p000", 2);
+        firstFault("u-,p000", 2);
+        firstFault("u-1,0000", 4);
+        firstFault("u-1,p,p000", 5);
+        firstFault("u-1,p0,p000", 6);
+        firstFault("u-1,p00,p000", 7);
         firstFault("u-:,p000", 2);
         firstFault("u-1,u000", 4);
         firstFault("u-1,p700", 5);
@@ -124,6 +130,30 @@ public final class PromiseTest {
         TowerTell x = new TowerTell();
         Checks.row(x, 0, 2, 117 + 256, 45, 49, 44, 112, 48, 48, 48);
         c.due("an int that would be u if it were cut", x.tower(0, 2, 0, 8), -100);
+    }
+
+    private static void towerOfPart() {
+        c.begin("2 tower, of a part of a row");
+        String whole = "u-1-2-3-4-5-9,p630,r591,a012,p604";
+        TowerTell x = new TowerTell();
+        Checks.row(x, 0, 0, Checks.codes(whole));
+        for (int n = 0; n <= whole.length(); n++) {
+            boolean isWhole = n >= 18 && (n - 13) % 5 == 0;
+            c.due(n + " codes, others behind them", x.tower(0, 0, 0, n), isWhole ? (n - 13) / 5 : -100 - n);
+        }
+        for (int n = 0; n < 18; n++) {
+            x.sheet(1, 2, 60);
+            for (int at = 0; at < n; at++) {
+                x.put(1, 60 - n + at, whole.charAt(at));
+            }
+            c.due(n + " codes at the end of the longest row", x.tower(1, 2, 60 - n, n), -100 - n);
+        }
+        c.due("a TOWER behind one that failed", Checks.build(x, "u-2,r011,p000"), 2);
+        c.due("DEEDS of it", x.many(1), 1);
+        x.say(0, 0);
+        Checks.build(x, "u-2,p000");
+        Checks.build(x, "u-2,r011,p000");
+        c.due("nothing TOLD", x.ofPerson(0, 3), 0);
     }
 
     private static void towerRefused() {
@@ -235,6 +265,9 @@ public final class PromiseTest {
         c.due("as if one had TOLD nothing", x.ofPerson(0, 3), 0);
         c.due("who KNOWS one stays", x.ofPerson(1, 4), 7);
         c.due("one may TELL it again", x.say(0, 0), 3);
+        TowerTell first = Checks.towerOf("u-3,p001,p002");
+        c.due("CAUGHT by PERSON 0", first.say(1, 0), 0);
+        c.due("a LIE of PERSON 0, whom nobody KNOWS", first.say(0, 0), 3);
         TowerTell alone = Checks.towerOf("u-3,p000,p002");
         c.due("one who KNOWS oneself is not another one", alone.say(0, 0), 3);
         c.due("KNOWS one who is not there", alone.say(1, 0), 3);
@@ -290,6 +323,7 @@ public final class PromiseTest {
         c.due("nothing is changed", x.landing(0), 7);
         Checks.row(x, 1, 1, 7, 0, 1, 0, 1, 0, 0, 0, 0, 0, 1);
         c.due("CAUGHT twice, then a TRUTH", x.days(1, 1, 1, 3, 0), 2);
+        c.due("CAUGHT twice, asked again", x.days(1, 1, 1, 3, 0), 2);
         c.due("TOLD then", x.days(1, 1, 1, 3, 20), 1);
         c.due("FIRST WRONG", x.days(1, 1, 1, 4, 1), 3);
         for (int what : new int[] {0, 2, 10, 11, 12, 13, 20, 21, 22, 23}) {
@@ -312,6 +346,15 @@ public final class PromiseTest {
         Checks.row(x, 1, 2, new int[40]);
         x.hush(0);
         c.due("20 pairs", x.days(1, 2, 0, 20, 1), 1);
+        Checks.build(x, "u-3-4,p011,p014");
+        Checks.row(x, 1, 2, 0, 1);
+        c.due("by who KNOWS whom now", x.days(1, 2, 0, 1, 0), 0);
+        Checks.build(x, "u-9-9,p011,p010");
+        c.due("by who KNOWS whom now", x.days(1, 2, 0, 1, 0), 1);
+        x.say(0, 0);
+        x.say(1, 0);
+        Checks.build(x, "u-3-4,p014");
+        c.due("the highest FLOOR of PEOPLE that there are", x.days(1, 2, 0, 0, 2), 0);
     }
 
     private static void daysRefused() {
@@ -340,6 +383,9 @@ public final class PromiseTest {
         c.due("no DEED, behind a FIRST WRONG, too", x.days(1, 2, 0, 3, 1), TowerTell.UNKNOWN);
         Checks.row(x, 1, 2, 2, 0);
         c.due("no PERSON", x.days(1, 2, 0, 1, 1), TowerTell.UNKNOWN);
+        Checks.row(x, 1, 2, 0, 0, 2, 0);
+        c.due("no PERSON in the second pair", x.days(1, 2, 0, 2, 1), TowerTell.UNKNOWN);
+        c.due("what is behind them does not matter", x.days(1, 2, 0, 1, 1), TowerTell.NONE);
         Checks.row(x, 1, 2, -1, -1);
         c.due("below 0", x.days(1, 2, 0, 1, 1), TowerTell.UNKNOWN);
     }
@@ -574,7 +620,9 @@ public final class PromiseTest {
         TowerTell x = new TowerTell();
         for (int lane = 0; lane < 3; lane++) {
             c.due("sheet", x.sheet(3, lane, 60), 1);
+            c.due("0 at first", x.cell(3, 0, lane), 0);
             c.due("0 at first", x.cell(3, 59, lane), 0);
+            x.put(3, 0, 7);
             x.put(3, 59, 7);
         }
         c.due("no SHEET", x.sheet(4, 9, 99), TowerTell.UNKNOWN);
