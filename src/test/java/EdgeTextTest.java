@@ -221,6 +221,12 @@ public final class EdgeTextTest {
             TowerTell part = new TowerTell();
             Checks.row(part, 0, 1, Checks.codes("-" + text));
             c.due(n + " codes, the row goes on", part.tower(0, 1, 1, n), due);
+            TowerTell longest = new TowerTell();
+            longest.sheet(0, 2, 60);
+            for (int at = 0; at < n; at++) {
+                longest.put(0, 60 - n + at, text.charAt(at));
+            }
+            c.due(n + " codes, the longest row ends there", longest.tower(0, 2, 60 - n, n), due);
         }
     }
 
@@ -273,16 +279,23 @@ public final class EdgeTextTest {
     }
 
     private static void oneTextBehindAnother() {
-        c.begin("A TEXT that is taken makes all anew, with fewer DEEDS and PEOPLE");
-        TowerTell x = Checks.towerOf("u-1-2-3-4-5-6,p630,r630,a630,p630");
-        x.say(3, 5);
-        c.due("the least TEXT", Checks.build(x, "u-7,r634"), 1);
-        c.due("DEEDS", x.many(1), 1);
-        c.due("no DEED 1", x.weight(1), TowerTell.UNKNOWN);
-        c.due("no PERSON 1", x.ofPerson(1, 0), TowerTell.UNKNOWN);
-        c.due("DONE", x.ofPerson(0, 1), 1);
-        c.due("the first once more", Checks.build(x, "u-1-2-3-4-5-6,p630,r630,a630,p630"), 4);
-        c.due("nothing TOLD", x.ofPerson(3, 3), 0);
+        c.begin("A TEXT that is taken makes all anew, with fewer or more DEEDS and PEOPLE");
+        TowerTell x = new TowerTell();
+        int[] deeds = {6, 1, 2, 1, 6, 3, 2, 5};
+        int[] people = {4, 1, 3, 2, 4, 1, 2, 3};
+        for (int turn = 0; turn < deeds.length; turn++) {
+            String text = "u-1-2-3-4-5-6".substring(0, 1 + 2 * deeds[turn]) + ",r634".repeat(people[turn]);
+            c.due(text, Checks.build(x, text), people[turn]);
+            c.due("PEOPLE", x.many(0), people[turn]);
+            c.due("DEEDS", x.many(1), deeds[turn]);
+            c.due("the last DEED", x.weight(deeds[turn] - 1), deeds[turn]);
+            c.due("no DEED behind it", x.weight(deeds[turn]), TowerTell.UNKNOWN);
+            c.due("nothing is TOLD by the last PERSON", x.ofPerson(people[turn] - 1, 3), 0);
+            c.due("nobody behind that one", x.ofPerson(people[turn], 3), TowerTell.UNKNOWN);
+            x.say(people[turn] - 1, deeds[turn] - 1);
+            c.due("a TEXT that is not taken, of a DEED more", x.tower(0, 0, 0, 3), -103);
+            c.due("DEEDS", x.many(1), deeds[turn]);
+        }
     }
 
     private static void storeysOfLeastAndGreatest() {

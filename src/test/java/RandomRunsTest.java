@@ -3,11 +3,12 @@ import java.util.Random;
 
 /** Runs of calls by a fixed seed: the program answers as the oracle does, and nothing is ever thrown. */
 public final class RandomRunsTest {
-    private static final int RUNS = 4000, CALLS = 512;
+    private static final int RUNS = 8000, MOST_CALLS = 512;
     private static final int[] EDGES = {Integer.MIN_VALUE, -1, 0, 1, 60, 61, 99, 100, Integer.MAX_VALUE,
         Integer.MAX_VALUE - 1, 1 << 30};
     private static final Checks checks = new Checks();
     private static final int[] taken = new int[30];
+    private static int calls;
 
     public static void main(String[] args) {
         for (int run = 0; run < RUNS; run++) {
@@ -24,27 +25,36 @@ public final class RandomRunsTest {
     private static void oneRun(Random by) {
         TowerTell x = new TowerTell();
         Oracle oracle = new Oracle();
-        int done = 0;
-        while (done < CALLS) {
-            int kind = done == 0 && by.nextInt(20) > 0 ? 0 : by.nextInt(60);
+        calls = 0;
+        while (calls + 2 <= MOST_CALLS) {
+            int kind = calls == 0 && by.nextInt(20) > 0 ? 0 : by.nextInt(60);
             if (kind == 0) {
-                done += text(x, oracle, by);
+                text(x, oracle, by);
             } else if (kind < 3) {
-                done += pairs(x, oracle, by);
+                pairs(x, oracle, by);
             } else {
                 one(x, oracle, by.nextInt(30), anything(by));
-                done++;
             }
         }
     }
 
+    /** One call and fault() behind it, unless the object has been used for as many calls as it may be. */
     private static void one(TowerTell x, Oracle oracle, int call, int... a) {
+        if (calls + 2 > MOST_CALLS) {
+            return;
+        }
+        calls += 2;
         long want = oracle.answer(call, a);
         checks.due("call " + call + " of " + Arrays.toString(a), answer(x, call, a), want);
         checks.due("fault() behind it", x.fault(), oracle.answer(28, a));
         if (want >= 0) {
             taken[call]++;
         }
+    }
+
+    /** What is asked of the oracle alone does not count as a call of the object. */
+    private static int ask(Oracle oracle, int call, int... a) {
+        return (int) oracle.answer(call, a);
     }
 
     private static int[] anything(Random by) {
@@ -57,16 +67,15 @@ public final class RandomRunsTest {
         return a;
     }
 
-    private static int write(TowerTell x, Oracle oracle, int sheet, int lane, int... cells) {
+    private static void write(TowerTell x, Oracle oracle, int sheet, int lane, int... cells) {
         one(x, oracle, 19, sheet, lane, cells.length, 0, 0);
         for (int i = 0; i < cells.length; i++) {
             one(x, oracle, 21, sheet, i, cells[i], 0, 0);
         }
-        return cells.length + 1;
     }
 
     /** A TEXT, now and then with a code spoilt, left out or added. */
-    private static int text(TowerTell x, Oracle oracle, Random by) {
+    private static void text(TowerTell x, Oracle oracle, Random by) {
         StringBuilder text = new StringBuilder("u");
         for (int d = by.nextInt(6) + (by.nextInt(20) == 0 ? 1 : 0); d >= 0; d--) {
             text.append('-').append(by.nextInt(by.nextBoolean() ? 3 : 9) + 1);
@@ -85,28 +94,27 @@ public final class RandomRunsTest {
             text.insert(at, "u-,pra0123456789x".charAt(by.nextInt(17)));
         }
         int lane = by.nextInt(3);
-        int calls = write(x, oracle, by.nextInt(2), lane, Checks.codes(text.toString()));
+        write(x, oracle, by.nextInt(2), lane, Checks.codes(text.toString()));
         one(x, oracle, 0, 0, lane, 0, text.length(), 0);
         one(x, oracle, 0, 1, lane, 0, text.length(), 0);
-        return calls + 2;
     }
 
     /** A row of pairs, with all that is asked by such DAYS. */
-    private static int pairs(TowerTell x, Oracle oracle, Random by) {
+    private static void pairs(TowerTell x, Oracle oracle, Random by) {
         int n = by.nextInt(by.nextInt(4) == 0 ? 21 : 6);
         int[] cells = new int[2 * n];
-        int people = Math.max(1, x.many(0));
-        int deeds = Math.max(1, x.many(1));
+        int people = Math.max(1, ask(oracle, 29, 0));
+        int deeds = Math.max(1, ask(oracle, 29, 1));
         for (int i = 0; i < cells.length; i++) {
             cells[i] = by.nextInt(i % 2 == 0 ? people : deeds) + by.nextInt(100) / 99;
         }
         int lane = by.nextInt(3);
-        int calls = write(x, oracle, 3, lane, cells);
+        write(x, oracle, 3, lane, cells);
         for (int what = 0; what < 24; what++) {
             one(x, oracle, 8, 3, lane, 0, n, what);
         }
         int p = by.nextInt(people);
-        int floor = x.days(3, lane, 0, n, 10 + Math.min(3, p));
+        int floor = ask(oracle, 8, 3, lane, 0, n, 10 + p);
         one(x, oracle, 13, p, by.nextInt(5) == 0 ? by.nextInt(12) : floor, 0, 0, 0);
         for (int d = 0; d < deeds; d++) {
             one(x, oracle, 15, d, 3, lane, 0, n);
@@ -116,9 +124,8 @@ public final class RandomRunsTest {
             one(x, oracle, 17, q, 3, lane, 0, n);
         }
         if (by.nextBoolean()) {
-            one(x, oracle, 14, x.many(2), 0, 0, 0, 0);
+            one(x, oracle, 14, ask(oracle, 29, 2), 0, 0, 0, 0);
         }
-        return calls + 26 + deeds + 2 * people;
     }
 
     private static long answer(TowerTell x, int call, int[] a) {

@@ -84,6 +84,10 @@ enum Scene {
         for (int what = 0; what <= 2; what++) {
             seen.add(x.many(what));
         }
+        // Ahead of all that is refused where there is no TOWER: a look must not hide what such a call would spoil.
+        for (int k = 0; k <= 3; k++) {
+            lookAtSheet(x, k, seen);
+        }
         for (int p = 0; p < 4; p++) {
             lookAtPerson(x, p, seen);
         }
@@ -96,9 +100,6 @@ enum Scene {
         }
         for (int what : new int[] {0, 1, 2, 10, 11, 12, 13, 20, 21, 22, 23}) {
             seen.add(x.days(PAIRS_SHEET, 1, 0, 4, what));
-        }
-        for (int k = 0; k <= 3; k++) {
-            lookAtSheet(x, k, seen);
         }
         return seen.all();
     }
